@@ -125,9 +125,9 @@ public final class EngagedTone {
     private final World now = new World();
     private final World image = new World();
     private boolean hasImage;
-    private final Reader reader = new Reader(tape);
-    private final Exchange exchange = new Exchange(told);
-    private final Foresight foresight = new Foresight(told);
+    private final Reader reader = new Reader();
+    private final Exchange exchange = new Exchange();
+    private final Foresight foresight = new Foresight();
     private final Rumours rumours = new Rumours();
     private final Deeds deeds = new Deeds();
 
@@ -159,7 +159,7 @@ public final class EngagedTone {
             return NEVER;
         }
         taped = 0;
-        if (!reader.read(n)) {
+        if (!reader.read(tape, n)) {
             return NONE;
         }
         told = reader.handOver(told);
@@ -1045,19 +1045,14 @@ public final class EngagedTone {
 
     /** Lets quarters go by in a world: as the text tells, or as it would go otherwise. */
     private static final class Exchange {
-        private Script script;
+        private Script script = new Script();
         int lines;
         int tries;
         boolean isFree;
         /** Who calls nobody, or NONE. */
-        int silent;
+        int silent = NONE;
         boolean isDrawing;
         long drawn;
-
-        Exchange(Script text) {
-            script = text;
-            silent = NONE;
-        }
 
         void open(Script text) {
             script = text;
@@ -1165,11 +1160,7 @@ public final class EngagedTone {
     /** Thinks quarters through in a world of its own. */
     private static final class Foresight {
         final World trial = new World();
-        final Exchange exchange;
-
-        Foresight(Script script) {
-            exchange = new Exchange(script);
-        }
+        final Exchange exchange = new Exchange();
 
         void look(Script script, World from) {
             trial.become(from);
@@ -1382,13 +1373,12 @@ public final class EngagedTone {
         int place;
         /** Of a number: it, or more than any limit; of a name: its letters, 5 bits each. */
         int value;
-        private final byte[] bytes;
+        private byte[] bytes = new byte[0];
         private int length;
         private int at;
         private final int[] words = new int[WORD_COUNT];
 
-        Tokens(byte[] tape) {
-            bytes = tape;
+        Tokens() {
             int word = 0;
             int letters = 0;
             int many = 0;
@@ -1406,8 +1396,9 @@ public final class EngagedTone {
             }
         }
 
-        void start(int n) {
-            length = Math.min(n, bytes.length);
+        void start(byte[] text, int n) {
+            bytes = text;
+            length = Math.min(n, text.length);
             at = 0;
             next();
         }
@@ -1489,22 +1480,18 @@ public final class EngagedTone {
         int faultPlace = NONE;
         int linesRead;
         private Script script = new Script();
-        private final Tokens tokens;
+        private final Tokens tokens = new Tokens();
         /** Signs that wait for what stands behind them; '(' among them. */
         private final int[] waiting = new int[MOST_KNOTS + MOST_OPEN];
         private int waits;
         private int open;
 
-        Reader(byte[] tape) {
-            tokens = new Tokens(tape);
-        }
-
-        boolean read(int n) {
+        boolean read(byte[] text, int n) {
             script.wipe();
             faultKind = 0;
             faultPlace = NONE;
             linesRead = 0;
-            tokens.start(n);
+            tokens.start(text, n);
             for (int i = 0; i <= MOST_BYTES && tokens.kind != T_END; i++) {
                 if (!readLine()) {
                     return false;

@@ -35,10 +35,14 @@ final class AheadTest {
         Check.due("ahead(1, -1, 0)", x.ahead(1, -1, 0), -1);
         Check.due("ahead(1, 3, 3)", x.ahead(1, 3, 3), -1);
         Check.due("ahead(1, 3, -1)", x.ahead(1, 3, -1), -1);
-        x.go(3);
+        x.go(1);
+        Check.due("more paid than by now", x.ahead(9, 2, 0), 15);
+        x.go(2);
         Check.due("more given up", x.ahead(9, 1, 0), 0);
         Check.due("more paid", x.ahead(9, 2, 0), 0);
         Check.due("fame then", x.ahead(9, 3, 1), 9);
+        x.go(5);
+        Check.due("no more through", x.ahead(9, 0, 0), 0);
     }
 
     private static void gettingThrough() {
@@ -84,6 +88,12 @@ final class AheadTest {
         EngagedTone w = Check.of("man a 1 1;man b 9 999;tone b 0 16;tone b 16 3;ring a b 0 9;tries 1;law dear 0;");
         Check.due("the last of 20", w.when(0, 0), 19);
         Check.due("over at 28", w.when(0, 1), 29);
+        String long91 = "man a 1 1;man b 9 9;tone b 0 16;tone b 16 16;tone b 32 16;tone b 48 16;tone b 64 16;"
+            + "tone b 80 11;tries 9;law again 9;law dear 0;";
+        EngagedTone v = Check.of(long91 + "ring a b 0 7;");
+        Check.due("tried for the ninth time at 91", v.when(0, 0), 19);
+        Check.due("over at 98", v.when(0, 1), 99);
+        Check.due("over at 99 is too late", Check.of(long91 + "ring a b 0 8;").when(0, 0), -2);
     }
 
     private static void fewestLines() {
@@ -127,6 +137,12 @@ final class AheadTest {
         // Stopped tones cost nothing: with the first one stopped, the second one is paid and keeps it engaged.
         String purse = "man a 1 9;man b 9 9;tries 1;law dear 9;tone b 0 2;tone b 1 2;ring a b 1 1;";
         Check.due("paid instead", Check.of(purse).stop(0), 3);
+        // Tones of b can be paid only while another one is engaged.
+        String busy = "man a 1 999;man b 9 9;man c 9 999;tries 1;law dear (busy=0)*999;";
+        String few = busy + "tone b 1 2;tone b 1 2;tone c 0 9;ring a b 1 1;";
+        Check.due("fewer, though their bits are more", Check.of(few).stop(0), 4);
+        String mine = busy + "tone a 0 9;tone b 1 2;tone b 1 2;ring a b 1 1;";
+        Check.due("not the caller's own", Check.of(mine).stop(0), 6);
         EngagedTone y = Check.of(purse);
         y.go(1);
         Check.due("the money is gone by then", y.stop(0), 1);
@@ -145,6 +161,11 @@ final class AheadTest {
         Check.due("given up", x.shift(3), 1);
         EngagedTone y = Check.of("man a 35 60;man b 1 1;tone a 0 2;ring b a 5 1;tries 1;");
         Check.due("of several the first", y.shift(0), 0);
+        String rings = "ring b a 1 1;ring b a 1 1;ring b a 1 1;ring b a 1 1;ring b a 1 1;";
+        EngagedTone z = Check.of("man a 35 60;man b 1 1;tone a 0 9;tries 1;tone b 50 1;" + rings + rings);
+        z.go(1);
+        Check.due("all are given up, however it is shifted", z.shift(0), 0);
+        Check.due("all ten", z.shift(3), 10);
     }
 
     private static void shiftingSeveral() {

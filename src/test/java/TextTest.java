@@ -4,6 +4,7 @@ final class TextTest {
         aNewObject();
         feeding();
         telling();
+        cutOffs();
         strayTokens();
         tooMuch();
         toldAlready();
@@ -75,6 +76,27 @@ final class TextTest {
         Check.due("no fault", x.fault(0), 0);
         Check.due("no place", x.fault(1), -1);
         Check.due("no person", x.named(0x02000000), -1);
+    }
+
+    /** What stands on the tape behind the text's end is not looked at. */
+    private static void cutOff(String tape, int n, int kind, int place) {
+        EngagedTone x = new EngagedTone();
+        Check.feed(x, tape);
+        Check.due("text(" + n + ") of '" + tape + "'", x.text(n), kind == 0 ? 1 : -1);
+        Check.due("its fault", x.fault(0), kind);
+        Check.due("its place", x.fault(1), place);
+    }
+
+    private static void cutOffs() {
+        cutOff("law again 1<=2;", 12, 1, 12);
+        cutOff("law again 1<>2;", 12, 1, 12);
+        cutOff("law again 1>=2;", 12, 1, 12);
+        cutOff("lines 12;", 7, 1, 7);
+        cutOff("lines 1;lines 1;", 8, 0, -1);
+        cutOff("lines 1;$", 8, 0, -1);
+        cutOff("lines 1;lines 1;", 9, 1, 8);
+        cutOff("man abcdefgh 1 1;", 10, 1, 10);
+        cutOff("man a 1 1;", 2, 1, 0);
     }
 
     private static void strayTokens() {
@@ -221,6 +243,11 @@ final class TextTest {
         Check.fault(sum + ";law fame 1<not 1;", 2, sum.length() + 11);
         Check.fault(sum + ";law fame 1;law dear +;", 1, sum.length() + 21);
         Check.fault(sum + ";law fame not not", 2, sum.length() + 14);
+        String nots = "not not not not not not not not not ";
+        String deep = "man a 1 1;law fame ((((((((" + nots + nots + nots + nots + nots + nots + nots + "1))))))));";
+        EngagedTone z = Check.of(deep);
+        Check.due("64 knots", z.count(3), 64);
+        Check.due("63 times not 1", z.law(1, 0), 0);
         EngagedTone y = Check.of("law again (turn + 2) * 3 <> (not 4 and 5) or 6;");
         Check.due("knots without brackets", y.count(3), 12);
     }
