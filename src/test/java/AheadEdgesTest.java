@@ -15,6 +15,7 @@ final class AheadEdgesTest {
         whenNeverTried();
         whenOver();
         whenFirst();
+        whenWhat();
         notWhen();
         fewestLines();
         linesIn99();
@@ -106,7 +107,7 @@ final class AheadEdgesTest {
     }
 
     private static void notThrough() {
-        Check.says("-2: not by then, GIVEN UP; NONE: no such CALL.");
+        Check.says("THROUGH; -2: not by then, GIVEN UP; NONE: no such CALL.");
         EngagedTone x = Check.of(ONCE + "tone b 3 1;ring a b 3 1;");
         Check.due("it will be given up", x.through(0), -2);
         x.go(4);
@@ -174,6 +175,16 @@ final class AheadEdgesTest {
         EngagedTone y = Check.of(AB + "law dear 0;law again 2;tries 2;tone b 0 4;ring a b 0 1;");
         Check.due("2 or 4", y.when(0, 0), 2);
         Check.due("over in 6", y.when(0, 1), 6);
+    }
+
+    private static void whenWhat() {
+        Check.says("WHEN, what 0: the QUARTER (0 .. 19 from this one on), 1: in how many QUARTERS it is OVER.");
+        for (int later = 0; later < 20; later++) {
+            String tones = later == 0 ? "" : later <= 16 ? "tone b 7 " + later + ";" : "tone b 7 16;tone b 23 " + (later - 16) + ";";
+            EngagedTone x = Check.of(ONCE + "ring a b 99 4;" + tones, 7);
+            Check.due("the quarter from this one on", x.when(0, 0), later);
+            Check.due("speaking for 4, over in the next", x.when(0, 1), later + 5);
+        }
     }
 
     private static void notWhen() {

@@ -39,7 +39,7 @@ final class ChanceEdgesTest {
     }
 
     private static void lengths() {
-        Check.says("a CALL that gets THROUGH is LONG by a number modulo 9, and 1.");
+        Check.says("QUARTERS by chance: a CALL that gets THROUGH is LONG by a number modulo 9, and 1.");
         // The second call is due so many quarters behind the first one: it gets through if that was no longer.
         for (int gap = 1; gap <= 9; gap++) {
             EngagedTone x = Check.of(AB + "ring a b 0 5;ring b a " + gap + " 5;tries 1;");

@@ -1,6 +1,7 @@
 import java.io.IOException;
 import java.nio.file.Files;
 import java.nio.file.Path;
+import java.util.Arrays;
 import java.util.NoSuchElementException;
 
 /** What the tests share: a text is fed and told, and answers are held against those that are due. */
@@ -9,11 +10,14 @@ final class Check {
     static final long NO_INDEX = 1000001;
     static final long NO_ELEMENT = 1000002;
 
+    private static final String NO_DOCUMENT = "?";
+
     private static int wrong = 0;
     private static int made = 0;
     private static int saidMade = 0;
     private static String said = "";
     private static String document = "";
+    private static boolean[] quoted = new boolean[0];
 
     private Check() {
     }
@@ -21,12 +25,14 @@ final class Check {
     /** Answers from here on are looked at for these words, which must stand in the document. */
     static void says(String words) {
         saidEnds();
-        if (document.isEmpty()) {
-            document = plain(documentText());
-        }
-        if (!document.contains(plain(words))) {
+        readDocument();
+        int at = document.indexOf(plain(words));
+        if (at < 0 && hasDocument()) {
             wrong++;
             System.out.println("the document doesn't say: " + words);
+        }
+        for (; at >= 0; at = document.indexOf(plain(words), at + 1)) {
+            Arrays.fill(quoted, at, at + plain(words).length(), true);
         }
         said = "[" + words + "] ";
         saidMade = made;
@@ -40,11 +46,35 @@ final class Check {
         said = "";
     }
 
+    private static void readDocument() {
+        if (document.isEmpty()) {
+            document = plain(documentText());
+            quoted = new boolean[document.length()];
+        }
+    }
+
+    /** Without the document beside the project quotes can't be looked at; the answers are all the same. */
+    static boolean hasDocument() {
+        readDocument();
+        return !document.equals(NO_DOCUMENT);
+    }
+
+    /** What no says() has quoted so far of the document from one of its words to another one, gaps as bars. */
+    static String unquoted(String from, String to) {
+        readDocument();
+        StringBuilder left = new StringBuilder();
+        for (int i = Math.max(0, document.indexOf(from)); i < document.indexOf(to); i++) {
+            left.append(quoted[i] ? '|' : document.charAt(i));
+        }
+        return left.toString();
+    }
+
     private static String documentText() {
         try {
             return Files.readString(Path.of("../shared/DOC.md"));
         } catch (IOException e) {
-            return "?";
+            System.out.println("../shared/DOC.md can't be read: no quote of it is looked at");
+            return NO_DOCUMENT;
         }
     }
 

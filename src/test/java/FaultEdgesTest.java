@@ -372,7 +372,7 @@ final class FaultEdgesTest {
     }
 
     private static void allStays() {
-        Check.says("NONE with a FAULT, all stays");
+        Check.says(": how many LINES; NONE with a FAULT, all stays");
         String text = "man a 50 99;man b 1 99;tone a 0 2;ring b a 0 1;ring a b 1 1;tries 1;law again 1;price 1 8;";
         EngagedTone x = used(text);
         EngagedTone y = used(text);

@@ -22,7 +22,7 @@ final class LawEdgesTest {
     }
 
     private static void turn() {
-        Check.says("turn: how often the CALL was TRIED (this one, too; of fame, dear 0)");
+        Check.says("NAMES: turn: how often the CALL was TRIED (this one, too; of fame, dear 0)");
         EngagedTone x = Check.of("man a 1 99;man b 1 99;tone b 0 16;ring a b 0 1;tries 9;"
             + "law again turn;law fame 5+turn;law dear 3+turn;");
         for (int due : new int[] {1, 3, 6}) {

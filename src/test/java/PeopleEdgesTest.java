@@ -93,7 +93,7 @@ final class PeopleEdgesTest {
     }
 
     private static void priceOfNow() {
-        Check.says("each buys a QUARTER of TONE now (0) or not (1)");
+        Check.says("RIVALS: two PEOPLE, each buys a QUARTER of TONE now (0) or not (1)");
         EngagedTone x = Check.of("man a 40 0;man b 40 0;price 2 41;law dear 0;");
         Check.due("at 5", x.rest(0, 1, 0), 0);
         x.go(1);
@@ -120,7 +120,8 @@ final class PeopleEdgesTest {
     }
 
     private static void noSuchRest() {
-        Check.says("-2: there are no so many; NONE likewise, k is below 0.");
+        Check.says("The k-th: ten times the first one's and the second one's; -2: there are no so many; NONE likewise, k is"
+            + " below 0.");
         EngagedTone x = Check.of(SIX);
         Check.due("the first", x.rest(4, 5, 0), 0);
         Check.due("no second", x.rest(4, 5, 1), -2);
@@ -140,7 +141,7 @@ final class PeopleEdgesTest {
     }
 
     private static void bids() {
-        Check.says("each bids VAIN, but no more than the PURSE has");
+        Check.says("AUCTION of a QUARTER among PEOPLE (bits): each bids VAIN, but no more than the PURSE has");
         EngagedTone x = Check.of("man a 50 49;man b 49 50;man c 50 50;man d 50 48;man e 99 0;");
         Check.due("50 of 50", x.auction(31, 0), 2);
         Check.due("49", x.auction(31, 1), 49);
@@ -220,7 +221,7 @@ final class PeopleEdgesTest {
         part(x, 3, 99, 2, 99);
         part(x, 3, 98, 1, 98);
         part(x, 5, 99, 0, 1);
-        Check.says("in how many of these that one is ENGAGED behind (3), as a fraction.");
+        Check.says("PART of a PERSON for n QUARTERS: in how many of these that one is ENGAGED behind (3), as a fraction.");
         EngagedTone y = Check.of(SIX + "ring a b 0 1;ring b a 2 1;", 1);
         Check.due("speaking now", y.man(0, 3), 1);
         part(y, 0, 1, 0, 1);
@@ -250,7 +251,7 @@ final class PeopleEdgesTest {
     }
 
     private static void rounds() {
-        Check.says("how many CALLS that got THROUGH so far lead from one to another one");
+        Check.says("ROUND: how many CALLS that got THROUGH so far lead from one to another one");
         EngagedTone x = Check.of(SIX + "tone f 0 9;ring a b 0 2;ring b c 2 1;ring e f 0 1;ring d e 9 1;tries 1;law dear 0;");
         Check.due("none so far", x.round(0, 1), -2);
         x.go(1);

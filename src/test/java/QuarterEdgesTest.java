@@ -13,6 +13,7 @@ final class QuarterEdgesTest {
         costsWithout();
         purses();
         dead();
+        dueNow();
         callers();
         callees();
         lines();
@@ -56,7 +57,7 @@ final class QuarterEdgesTest {
     }
 
     private static void callsEnd() {
-        Check.says("(1) by numbers each CALL that is SPEAKING for LONG QUARTERS is OVER.");
+        Check.says("A QUARTER: (1) by numbers each CALL that is SPEAKING for LONG QUARTERS is OVER.");
         for (int many = 1; many <= 9; many++) {
             EngagedTone x = Check.of(AB + "man c 0 0;ring a b 3 " + many + ";ring c b " + (3 + many) + " 1;", 3 + many);
             Check.due("speaking for " + many, x.ring(0, 4), 1);
@@ -151,6 +152,25 @@ final class QuarterEdgesTest {
         x.lend(0, 99);
         x.go(1);
         Check.due("it stays dead", x.tone(0, 3), 3);
+    }
+
+    private static void dueNow() {
+        Check.says("(3) by numbers each CALL that is WAITING and due now is TRIED:");
+        EngagedTone x = Check.of(SIX + "ring c a 2 1;ring b a 1 1;ring a b 1 1;ring d a 1 1;", 1);
+        Check.due("none is due at 0", x.count(11), 0);
+        x.go(1);
+        int[] tried = {0, 1, 1, 1};
+        int[] state = {0, 1, 0, 0};
+        for (int ring = 0; ring < 4; ring++) {
+            Check.due("tried " + ring, x.ring(ring, 5), tried[ring]);
+            Check.due("the first of three due at 1 gets through", x.ring(ring, 4), state[ring]);
+        }
+        x.go(1);
+        Check.due("the first of all due at 2 gets through", x.ring(0, 4), 1);
+        Check.due("one that is over isn't tried", x.ring(1, 5), 1);
+        Check.due("one that is due again is", x.ring(3, 5), 2);
+        x.go(1);
+        Check.due("one that got through isn't tried", x.ring(0, 5), 1);
     }
 
     private static void callers() {

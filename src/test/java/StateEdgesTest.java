@@ -7,6 +7,7 @@ final class StateEdgesTest {
 
     public static void main(String[] args) {
         used512Times();
+        rings();
         ringDue();
         noSuchCall();
         noSuchWhatOfCalls();
@@ -42,6 +43,25 @@ final class StateEdgesTest {
         Check.due("undo", x.undo(), 0);
         Check.due("purse", x.man(0, 1), 99);
         Check.due("the 512th", x.count(2), 1);
+    }
+
+    private static void rings() {
+        Check.says("Of a CALL now, what 0 who calls, 1 whom, 2 the QUARTER at which it is due (first or again; of one"
+            + " THROUGH: at which it got so), 3 LONG, 4: 0 WAITING, 1 SPEAKING, 2 OVER, 3 GIVEN UP, 5 how often it was TRIED.");
+        EngagedTone x = Check.of(AB + "tone b 5 2;ring a b 5 9;law again 2;");
+        int[][] want = {{0, 1, 5, 9, 0, 0}, {0, 1, 7, 9, 0, 1}, {0, 1, 7, 9, 1, 2}, {0, 1, 7, 9, 2, 2}};
+        int[] quarters = {5, 6, 8, 17};
+        for (int i = 0; i < want.length; i++) {
+            x.go(quarters[i] - x.count(4));
+            for (int what = 0; what < 6; what++) {
+                Check.due("ring(0, " + what + ") at " + quarters[i], x.ring(0, what), want[i][what]);
+            }
+        }
+        EngagedTone y = Check.of(AB + "tone b 5 2;ring a b 5 9;tries 1;", 6);
+        int[] givenUp = {0, 1, 5, 9, 3, 1};
+        for (int what = 0; what < 6; what++) {
+            Check.due("ring(0, " + what + ") given up", y.ring(0, what), givenUp[what]);
+        }
     }
 
     private static void ringDue() {
