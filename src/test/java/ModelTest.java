@@ -237,7 +237,7 @@ final class ModelTest {
             case 10: due("keep()", x.keep(), y.keep()); break;
             case 11: if (upTo(2) == 0) { due("back()", x.back(), y.back()); } break;
             case 12: { int w = about(14); due("count(" + w + ")", x.count(w), y.count(w)); break; }
-            default: if (upTo(2) == 0) { tellBoth(spoiltText()); } break;
+            default: if (upTo(2) == 0) { tellBoth(upTo(1) == 0 ? goodText() : spoiltText()); } break;
         }
     }
 
