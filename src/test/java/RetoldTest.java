@@ -21,7 +21,8 @@ final class RetoldTest {
         "man a 9 99;man b 8 88;tone a 0 2;ring b a 0 1;law dear 1+2*(3-4/(5+turn))<9 and vain or not purse;",
         "man b 9 99;man a 8 88;tone a 0 2;ring b a 0 1;tries 1;lines 1;law fame time+1;"};
 
-    private static final String[] FAULTS = {"man z 1 1;law again not not not (1;", "tries 9;tries 9;", "man a 1 1;ring a a"};
+    private static final String[] FAULTS = {
+        "man z 1 1;law again not not not (1;", "tries 9;tries 9;", "man a 1 1;ring a a"};
 
     public static void main(String[] args) {
         for (int last = 0; last < TEXTS.length; last++) {
